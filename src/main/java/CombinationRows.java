@@ -152,8 +152,8 @@ public final class CombinationRows {
             return -3;
         }
         underWay = true;
-        generation.start();
-        int goals = generation.goalsLeft;
+        int goals = generation.countGoals();
+        generation.start(goals);
         takeSeeds();
         return goals;
     }
@@ -304,7 +304,7 @@ public final class CombinationRows {
             long found = -1L;
             for (int p = 0; p < PARAMETERS_IN_WORD; p++) {
                 if (valueOf(p, fields) != 0) {
-                    found &= wordOf(p, valueOf(p, bits), 0);
+                    found &= ZERO_IN_WORD[p] << (valueOf(p, bits) << 2 * p);
                 }
             }
             return found;
@@ -603,17 +603,17 @@ public final class CombinationRows {
             this.relations = relations;
         }
 
-        void start() {
+        void start(int goals) {
             Arrays.fill(covered, 0L);
             taken = 0;
-            goalsLeft = countGoals();
+            goalsLeft = goals;
             int limit = space.numberLimit();
             for (int number = 0; number < limit; number++) {
                 gains[number] = Long.bitCount(setsCoveredBy(number));
             }
         }
 
-        private int countGoals() {
+        int countGoals() {
             long asked = relations.askedWith(0);
             int goals = 0;
             for (int set = 1; set < SETS; set++) {

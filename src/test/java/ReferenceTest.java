@@ -362,10 +362,11 @@ public final class ReferenceTest {
                 if (y.values.size() == maxParameters && maxParameters < 6) return true;
                 return same("parameter " + b, x.parameter(b), y.parameter(b));
             case 1:
-                return random.nextInt(3) > 0 || same("invalid " + a + " " + b, x.invalid(a, b), y.invalid(a, b));
+                return random.nextInt(2) > 0 || same("invalid " + a + " " + b, x.invalid(a, b), y.invalid(a, b));
             case 2: case 3:
-                int set = below(1 << y.values.size());
-                return same("relation " + set + " " + b, x.relation(set, b), y.relation(set, b));
+                int set = below((1 << y.values.size()) - 1);
+                int strength = random.nextInt(6) == 0 ? b : 1 + random.nextInt(Math.max(1, Math.min(3, Integer.bitCount(set))));
+                return same("relation " + set + " " + strength, x.relation(set, strength), y.relation(set, strength));
             case 4: case 5: case 6: case 7: case 8: case 9: case 10:
                 return same("is " + a + " " + b, x.is(a, b), y.is(a, b));
             case 11: case 12: case 13: case 14:
@@ -374,12 +375,12 @@ public final class ReferenceTest {
                 int op = random.nextInt(6) == 0 ? 0 : below(3);
                 return same("join " + op, x.join(op), y.join(op));
             case 21:
-                return random.nextInt(3) > 0 || same("require", x.require(), y.require());
+                return same("require", x.require(), y.require());
             case 22:
                 int number = someNumber();
                 return random.nextInt(3) > 0 || same("seed " + number, x.seed(number), y.seed(number));
             default:
-                return same("begin", x.begin(), y.begin());
+                return random.nextInt(3) > 0 || same("begin", x.begin(), y.begin());
         }
     }
 
@@ -408,11 +409,12 @@ public final class ReferenceTest {
         if (kind < 5) {
             return ask();
         }
+        boolean isDone = y.underWay && y.left() == 0;
+        if (kind == 19 && random.nextInt(10) == 0 || isDone && kind > 12) {
+            return same("end", x.end(), y.end());
+        }
         if (y.underWay && kind < 18) {
             return same("next", x.next(), y.next());
-        }
-        if (kind == 19 && random.nextInt(4) == 0) {
-            return same("end", x.end(), y.end());
         }
         return setUp();
     }
@@ -430,11 +432,11 @@ public final class ReferenceTest {
     }
 
     public static void main(String[] args) {
-        for (int seed = 0; seed < 2500 && wrong == 0; seed++) {
+        for (int seed = 0; seed < 4000 && wrong == 0; seed++) {
             new ReferenceTest(seed, 1 + seed % 4).run(200);
         }
-        for (int seed = 0; seed < 40 && wrong == 0; seed++) {
-            new ReferenceTest(seed, 5 + seed % 8 / 7).run(150);
+        for (int seed = 0; seed < 200 && wrong == 0; seed++) {
+            new ReferenceTest(seed, 5 + seed % 4 / 3).run(200);
         }
         System.out.println(wrong == 0 ? "all answers are those of the reference" : "not those of the reference");
         System.exit(wrong == 0 ? 0 : 1);
