@@ -431,6 +431,50 @@ public final class ReferenceTest {
         }
     }
 
+    /** All 512 calls, with rows of at most three values other than 0, so that many rows are taken. */
+    private void runLong() {
+        for (int p = 0; p < 6; p++) {
+            same("parameter 4", x.parameter(4), y.parameter(4));
+        }
+        same("relation 63 3", x.relation(63, 3), y.relation(63, 3));
+        int put = 0;
+        for (int set = 0; set < 64; set++) {
+            if (Integer.bitCount(set) == 4) {
+                putSomeZero(set);
+                put++;
+                if (put % 2 == 0) {
+                    same("join 0", x.join(0), y.join(0));
+                    same("require", x.require(), y.require());
+                }
+            }
+        }
+        same("require", x.require(), y.require());
+        for (int number = 1; number <= 8; number++) {
+            same("seed " + 21 * number, x.seed(21 * number), y.seed(21 * number));
+        }
+        same("begin", x.begin(), y.begin());
+        for (int i = 0; i < 330; i++) {
+            same("next", x.next(), y.next());
+        }
+        for (int i = y.rows() - 23; i < y.rows(); i++) {
+            same("row " + i, x.row(i), y.row(i));
+            same("gained " + i, x.gained(i), y.gained(i));
+        }
+    }
+
+    private void putSomeZero(int set) {
+        int put = 0;
+        for (int p = 0; p < 6; p++) {
+            if ((set >> p & 1) != 0) {
+                same("is " + p + " 0", x.is(p, 0), y.is(p, 0));
+                put++;
+                if (put > 1) {
+                    same("join 1", x.join(1), y.join(1));
+                }
+            }
+        }
+    }
+
     public static void main(String[] args) {
         for (int seed = 0; seed < 4000 && wrong == 0; seed++) {
             new ReferenceTest(seed, 1 + seed % 4).run(200);
@@ -438,6 +482,7 @@ public final class ReferenceTest {
         for (int seed = 0; seed < 200 && wrong == 0; seed++) {
             new ReferenceTest(seed, 5 + seed % 4 / 3).run(200);
         }
+        new ReferenceTest(0, 6).runLong();
         System.out.println(wrong == 0 ? "all answers are those of the reference" : "not those of the reference");
         System.exit(wrong == 0 ? 0 : 1);
     }
