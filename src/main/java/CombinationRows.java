@@ -398,12 +398,12 @@ public final class CombinationRows {
         private static void combineSets(int op, NumberSet x, NumberSet y) {
             if (op == AND) {
                 x.becomeAnd(y);
-                return;
-            }
-            if (op == IMPLIES) {
+            } else if (op == OR) {
+                x.becomeOr(y);
+            } else {
                 x.becomeNot();
+                x.becomeOr(y);
             }
-            x.becomeOr(y);
         }
 
         /** The set is the stack's own: it holds until the next term is put there. */

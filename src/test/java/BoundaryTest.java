@@ -144,6 +144,11 @@ public final class BoundaryTest {
             return this;
         }
 
+        /** Ends a generation, but makes no call that is refused. */
+        Run endIfUnderWay() {
+            return left().last >= 0 ? end() : this;
+        }
+
         Run exclude(int p, int v, int q, int w) {
             return is(p, v).is(q, w).join(AND).not().require();
         }
@@ -197,7 +202,7 @@ public final class BoundaryTest {
         for (int i = 0; i < 8; i++) {
             x.next().left();
         }
-        x.rows().end();
+        x.rows().endIfUnderWay();
     }
 
     private static void watchRows(Run x) {
@@ -207,11 +212,11 @@ public final class BoundaryTest {
         for (int partial : SOME_PARTIALS) {
             x.extendable(partial);
         }
-        x.forbidden(1).forbidden(2).forbidden(3).end();
+        x.forbidden(1).forbidden(2).forbidden(3).endIfUnderWay();
     }
 
     private static void watchNewGeneration(Run x) {
-        x.end().begin().left();
+        x.endIfUnderWay().begin().left();
         long taken = x.rows().last;
         for (int i = 0; i < taken; i++) {
             x.row(i).gained(i);
@@ -222,7 +227,7 @@ public final class BoundaryTest {
     }
 
     private static void watchStack(Run x) {
-        x.end();
+        x.endIfUnderWay();
         for (int i = 0; i < 9 && x.require().last >= 0; i++) {
             for (int number : SOME_NUMBERS) {
                 x.kind(number);
@@ -231,7 +236,7 @@ public final class BoundaryTest {
     }
 
     private static void watchDepths(Run x) {
-        x.end();
+        x.endIfUnderWay();
         for (int i = 0; i < 9; i++) {
             for (int depth = 0; depth < 9 && x.not().last > 0; depth++) {
                 continue;
@@ -241,7 +246,7 @@ public final class BoundaryTest {
     }
 
     private static void watchJoins(Run x) {
-        x.end();
+        x.endIfUnderWay();
         for (int i = 0; i < 8; i++) {
             x.join(i % 3);
         }
@@ -253,7 +258,7 @@ public final class BoundaryTest {
     }
 
     private static void watchCounts(Run x) {
-        x.end();
+        x.endIfUnderWay();
         for (int i = 0; i < 9; i++) {
             x.relation(1, 1).seed(1).parameter(2).is(0, 0);
         }
@@ -261,7 +266,7 @@ public final class BoundaryTest {
     }
 
     private static void watchInvalid(Run x) {
-        x.end();
+        x.endIfUnderWay();
         for (int p = -1; p <= 6; p++) {
             for (int v = -1; v <= 4; v++) {
                 x.invalid(p, v);
@@ -328,6 +333,15 @@ public final class BoundaryTest {
             x.relation(i * 7, 1 + i % 2).due(i).seed(i * 21).due(i).is(i % 3, i % 2).due(true);
         }
         x.invalid(5, 0).due(true);
+    }
+
+    /** Eight terms, the uppermost one of depth 3, and room for as many rules. */
+    private static void fullStack(Run x) {
+        x.parameter(4).parameter(4);
+        for (int i = 0; i < 8; i++) {
+            x.is(i % 2, i / 2).due(true).not();
+        }
+        x.not();
     }
 
     private static void fullUnderWay(Run x) {
@@ -437,6 +451,18 @@ public final class BoundaryTest {
         Run x = new Run();
         some(x);
         x.begin().end().parameter(2).due(3);
+        parametersMadeLater();
+    }
+
+    /** What was said of the first parameters holds on when the others are made. */
+    private static void parametersMadeLater() {
+        Run x = with(3).invalid(0, 2).relation(1, 1).is(0, 0).not().require().due(1).is(0, 1);
+        for (int p = 1; p < 6; p++) {
+            int last = 1 << 2 * p;
+            x.parameter(2).due(p).kind(last).due(0).kind(last + 1).due(2).kind(last + 2).due(1);
+            x.begin().due(2).end().due(true);
+        }
+        x.require().due(2).kind(1).due(2).kind(2).due(0).begin().due(1).next().due(1).next().due(-2);
     }
 
     // Promise 3: "false when a generation is under way, there is no parameter p, it has no value v,
@@ -605,6 +631,7 @@ public final class BoundaryTest {
         }
         x.is(0, 0).due(false).join(OR).due(true).is(0, 0).due(true).is(0, 0).due(false);
         x.require().due(1).is(0, 0).due(true).is(0, 0).due(false);
+        refused(BoundaryTest::fullStack, y -> y.is(0, 0).due(false).is(1, 2).due(false).is(2, 0).due(false));
         refused(BoundaryTest::full, y -> y.is(0, 0).due(false).is(5, 3).due(false)
                 .is(6, 0).due(false).is(0, 4).due(false).is(-1, -1).due(false));
         Calls underWay = y -> y.is(0, 0).due(false).is(1, 1).due(false).is(3, 0).due(false)
@@ -821,6 +848,17 @@ public final class BoundaryTest {
                 x -> x.begin().due(-3).end().due(false));
         oneValidRow();
         leastAndMostGoals();
+        tuplesThatAreNoGoals();
+    }
+
+    /** Tuples that only a NEGATIVE row, or only a row with two invalid values, contains. */
+    private static void tuplesThatAreNoGoals() {
+        Run x = with(3, 2).invalid(0, 2).exclude(0, 0, 1, 1).exclude(0, 1, 1, 1).relation(2, 1);
+        x.kind(6).due(1).begin().due(1).next().due(0).next().due(-2).end();
+        x.relation(3, 2).due(2).begin().due(1 + 2 + 2).gain(6).due(1).gain(2).due(1).end();
+        Run y = with(2, 2).invalid(0, 1).invalid(1, 1).is(0, 1).is(1, 1).join(IMPLIES).require();
+        y.kind(5).due(0).relation(3, 1).begin().due(2 + 1).gain(4).due(1).gain(5).due(-2);
+        y.next().due(0).next().due(4).next().due(-2);
     }
 
     private static void oneValidRow() {
@@ -999,7 +1037,7 @@ public final class BoundaryTest {
         refused(BoundaryTest::allCovered, x -> x.left().due(0).next().left().due(0));
         with(2).relation(1, 1).begin().left().due(2).next().left().due(1).next().left().due(0)
                 .next().left().due(0).end().left().due(-1);
-        with(2, 2).relation(3, 2).seed(0).seed(0).seed(9).begin().due(4).left().due(3);
+        with(2, 2).relation(3, 2).seed(0).seed(0).seed(9).begin().due(4).left().due(3).rows().due(2);
     }
 
     // Promise 17: "-1 when no generation is under way, -2 when it is not the number of a VALID or
@@ -1226,52 +1264,44 @@ public final class BoundaryTest {
      */
     private static void mostRowsIn512Calls() {
         Run x = with(4, 4, 4, 4, 4, 4).relation(63, 3);
-        someZeroInEachFour(x);
+        requireThreeZeros(x);
         for (int i = 1; i <= 8; i++) {
             x.seed(i).due(i);
         }
-        x.begin().due(1280).rows().due(8);
+        x.begin().due(20 * 64).rows().due(8);
         int[] numbers = new int[CALLS];
         int taken = 8;
-        while (x.made < CALLS - 100) {
+        while (x.made < CALLS - 14) {
             numbers[taken] = (int) x.next().last;
             taken++;
         }
-        x.rows().due(taken);
-        for (int i = taken - 48; i < taken; i++) {
+        x.rows().due(taken).row(8).due(numbers[8]).row(256).due(numbers[256]);
+        for (int i = taken - 5; i < taken; i++) {
             x.row(i).due(numbers[i]).gained(i).due(1);
         }
         x.row(taken).due(-1);
-        while (x.made < CALLS) {
-            x.kind(0).due(2);
+        if (x.made != CALLS) {
+            complain("the last call is the " + x.made + "th");
         }
     }
 
-    private static void someZeroInEachFour(Run x) {
-        int made = 0;
-        for (int set = 0; set < 64; set++) {
-            if (Integer.bitCount(set) == 4) {
-                putSomeZero(x, set);
-                made++;
-                if (made % 2 == 0) {
-                    x.join(AND).require().due(made / 2);
-                }
-            }
+    /** So many zeros among the first three parameters and so many among the others make three. */
+    private static void requireThreeZeros(Run x) {
+        threeZeros(x, 0);
+        threeZeros(x, 3);
+        x.join(OR).due(true);
+        for (int first = 0; first <= 3; first += 3) {
+            int other = 3 - first;
+            x.is(first, 0).is(first + 1, 0).join(AND);
+            x.is(first, 0).is(first + 1, 0).join(OR).is(first + 2, 0).join(AND).join(OR);
+            x.is(other, 0).is(other + 1, 0).join(OR).is(other + 2, 0).join(OR);
+            x.join(AND).join(OR).due(true);
         }
-        x.require().due(8);
+        x.require().due(1);
     }
 
-    private static void putSomeZero(Run x, int set) {
-        int put = 0;
-        for (int p = 0; p < 6; p++) {
-            if ((set >> p & 1) != 0) {
-                x.is(p, 0).due(true);
-                put++;
-                if (put > 1) {
-                    x.join(OR).due(true);
-                }
-            }
-        }
+    private static void threeZeros(Run x, int first) {
+        x.is(first, 0).is(first + 1, 0).join(AND).is(first + 2, 0).join(AND).due(true);
     }
 
     public static void main(String[] args) {

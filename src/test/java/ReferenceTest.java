@@ -437,42 +437,52 @@ public final class ReferenceTest {
             same("parameter 4", x.parameter(4), y.parameter(4));
         }
         same("relation 63 3", x.relation(63, 3), y.relation(63, 3));
-        int put = 0;
-        for (int set = 0; set < 64; set++) {
-            if (Integer.bitCount(set) == 4) {
-                putSomeZero(set);
-                put++;
-                if (put % 2 == 0) {
-                    same("join 0", x.join(0), y.join(0));
-                    same("require", x.require(), y.require());
-                }
-            }
-        }
-        same("require", x.require(), y.require());
+        requireThreeZeros();
         for (int number = 1; number <= 8; number++) {
             same("seed " + 21 * number, x.seed(21 * number), y.seed(21 * number));
         }
         same("begin", x.begin(), y.begin());
-        for (int i = 0; i < 330; i++) {
+        for (int i = 0; i < 440; i++) {
             same("next", x.next(), y.next());
         }
-        for (int i = y.rows() - 23; i < y.rows(); i++) {
+        for (int i = y.rows() - 6; i < y.rows(); i++) {
             same("row " + i, x.row(i), y.row(i));
             same("gained " + i, x.gained(i), y.gained(i));
         }
     }
 
-    private void putSomeZero(int set) {
-        int put = 0;
-        for (int p = 0; p < 6; p++) {
-            if ((set >> p & 1) != 0) {
-                same("is " + p + " 0", x.is(p, 0), y.is(p, 0));
-                put++;
-                if (put > 1) {
-                    same("join 1", x.join(1), y.join(1));
-                }
-            }
+    /** So many zeros among the first three parameters and so many among the others make three. */
+    private void requireThreeZeros() {
+        zeros(0, "&&");
+        zeros(3, "&&");
+        join(1);
+        for (int first = 0; first <= 3; first += 3) {
+            zero(first);
+            zero(first + 1);
+            join(0);
+            zeros(first, "|&");
+            join(1);
+            zeros(3 - first, "||");
+            join(0);
+            join(1);
         }
+        same("require", x.require(), y.require());
+    }
+
+    private void zeros(int first, String ops) {
+        zero(first);
+        zero(first + 1);
+        join(ops.charAt(0) == '&' ? 0 : 1);
+        zero(first + 2);
+        join(ops.charAt(1) == '&' ? 0 : 1);
+    }
+
+    private void zero(int p) {
+        same("is " + p + " 0", x.is(p, 0), y.is(p, 0));
+    }
+
+    private void join(int op) {
+        same("join " + op, x.join(op), y.join(op));
     }
 
     public static void main(String[] args) {
