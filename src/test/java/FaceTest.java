@@ -48,7 +48,31 @@ public final class FaceTest {
         return found;
     }
 
+    /** LANGUAGE.md, rule 1: classes inside are static and hidden, and names of the face are its own. */
+    private static void lookInside() {
+        Set<String> names = new TreeSet<>();
+        for (Method method : CombinationRows.class.getMethods()) {
+            names.add(method.getName());
+        }
+        for (Class<?> inside : CombinationRows.class.getDeclaredClasses()) {
+            int modifiers = inside.getModifiers();
+            due(inside + " is static", Modifier.isStatic(modifiers), true);
+            due(inside + " is hidden", Modifier.isPublic(modifiers) || Modifier.isProtected(modifiers), false);
+            lookForNames(inside, names);
+        }
+        lookForNames(CombinationRows.class, names);
+        due("package", CombinationRows.class.getPackageName(), "");
+    }
+
+    private static void lookForNames(Class<?> where, Set<String> names) {
+        for (Method method : where.getDeclaredMethods()) {
+            boolean isPrivate = Modifier.isPrivate(method.getModifiers());
+            due(method + " has a name of the face", isPrivate && names.contains(method.getName()), false);
+        }
+    }
+
     public static void main(String[] args) {
+        lookInside();
         due("modifiers", CombinationRows.class.getModifiers(), Modifier.PUBLIC | Modifier.FINAL);
         due("methods", visibleMethods(), FACE);
         Constructor<?>[] constructors = CombinationRows.class.getDeclaredConstructors();
@@ -60,6 +84,7 @@ public final class FaceTest {
                     && !Modifier.isFinal(field.getModifiers());
             due("field " + field.getName() + " is static state", isState, false);
         }
+        System.out.println(wrong == 0 ? "the face is the document's" : wrong + " faults in the face");
         System.exit(wrong == 0 ? 0 : 1);
     }
 }
